@@ -151,5 +151,18 @@ public final class AloneTest {
             }
         }
         Due.is("a side was better, and worse", better && worse ? 1 : 0, 1);
+        // where SHORE ends at 99 or 100, a start one off 100 or -100 would tell
+        for (int dist = 40; dist < 80; dist++) {
+            for (String law : new String[] {"0", "20", "0-20"}) {
+                WindBay bay = new WindBay();
+                bay.set(0, dist);
+                bay.set(1, 3);
+                bay.set(2, 99 + dist % 2);
+                Due.law(bay, law);
+                int from = Math.min(bay.best(100, true, 1), bay.best(100, false, 1));
+                int left = Math.min(bay.best(-100, true, 1), bay.best(-100, false, 1));
+                Due.is("sides, DIST " + dist + " by " + law, bay.sides(), from - left);
+            }
+        }
     }
 }
