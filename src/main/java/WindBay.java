@@ -777,9 +777,8 @@ public final class WindBay {
             }
         }
 
-        /** A LAST's FAILURE stands in place of all that others have, the word on FIGURE 0 too. */
         private boolean hasFailure() {
-            return kind == LAST || kind != FEIGNED && figure > 0;
+            return kind != FEIGNED && figure > 0;
         }
 
         void fail() {
