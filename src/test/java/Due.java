@@ -1,3 +1,5 @@
+import java.util.function.IntUnaryOperator;
+
 /** What the tests share: answers are compared with those that are due, and counted. */
 final class Due {
     private static int asked = 0;
@@ -11,6 +13,35 @@ final class Due {
         if (got != want) {
             wrong++;
             System.out.println(call + " answered " + got + ", due is " + want);
+        }
+    }
+
+    /**
+     * A sentence of the document (ahead of it the number of its promise, T for the Terms) and the test of
+     * its own that asks whether it holds.
+     */
+    static void sentence(String words, Runnable test) {
+        int askedAhead = asked;
+        int wrongAhead = wrong;
+        try {
+            test.run();
+        } catch (RuntimeException e) {
+            wrong++;
+            System.out.println("thrown: " + e);
+        }
+        if (asked == askedAhead) {
+            wrong++;
+            System.out.println("nothing was asked for");
+        }
+        if (wrong != wrongAhead) {
+            System.out.println("^ broken: " + words);
+        }
+    }
+
+    /** All the numbers are answered alike. */
+    static void all(String call, IntUnaryOperator asking, long want, int... numbers) {
+        for (int n : numbers) {
+            is(call + " of " + n, asking.applyAsInt(n), want);
         }
     }
 
@@ -33,6 +64,11 @@ final class Due {
     static void law(WindBay bay, String text) {
         text(bay, 7, text);
         is("law " + text, bay.law(7), 1);
+    }
+
+    /** Under a LAW by which a BOAT that goes RIGHT gains so much (0 .. 14) each SECOND, and LEFT 12 less that. */
+    static void gain(WindBay bay, int up) {
+        law(bay, "30-5*" + up);
     }
 
     /** x, y, RIGHT, SECONDS of a turn left, turns of a BOAT. */
