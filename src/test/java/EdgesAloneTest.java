@@ -9,8 +9,11 @@ public final class EdgesAloneTest {
         tacksWhereNoneAre();
         tacksTillIn();
         tacksAlone();
+        noOthers();
         best();
+        bestByLateTurns();
         sides();
+        sidesFrom();
         Due.end();
     }
 
@@ -136,6 +139,30 @@ public final class EdgesAloneTest {
         });
     }
 
+    private static void noOthers() {
+        Due.sentence("14: (no others): whatever went by in mind ahead of it: all were IN", () -> {
+            WindBay bay = new WindBay();
+            bay.set(0, 42);
+            for (int i = 0; i < 4; i++) {
+                bay.boat(0, -56, true, 0);
+            }
+            Due.is("in mind", bay.ends(3), 4);
+            Due.is("alone", bay.tacks(-56, true, 0), 7);
+        });
+        Due.sentence("14: (no others): whatever went by in mind ahead of it: they were just ahead", () -> {
+            WindBay bay = new WindBay();
+            bay.set(0, 42);
+            for (int i = 0; i < 4; i++) {
+                bay.boat(0, -64, true, 0);
+            }
+            Due.ints(bay, 0, 6);
+            Due.is("in mind at x -56, y 6", bay.read(0, 0), -4);
+            Due.is("alone", bay.tacks(-56, true, 0), 7);
+            Due.is("two of a GAME", bay.lead(0, 0, 3, 0, 0), 0);
+            Due.is("alone", bay.tacks(-56, true, 0), 7);
+        });
+    }
+
     /** The least SECONDS of all bits times 1000, and their least bits. */
     private static int least(WindBay bay, int x, boolean right) {
         int least = MAX;
@@ -198,6 +225,58 @@ public final class EdgesAloneTest {
         });
     }
 
+    private static void bestByLateTurns() {
+        Due.sentence("15: the bits with the least: a turn just ahead of the end", () -> {
+            WindBay bay = new WindBay();
+            bay.set(0, 61);
+            bay.set(3, 0);
+            Due.is("on: at DIST at 11, x 16", bay.tacks(-72, true, 0), 13);
+            Due.is("turned at 10: at DIST at 11, x 0", bay.tacks(-72, true, 1), 11);
+            Due.is("SECONDS", bay.best(-72, true, 1), 11);
+            Due.is("bits", bay.best(-72, true, 0), 1);
+        });
+        Due.sentence("15: the bits with the least: a turn just ahead of the end, at 30", () -> {
+            WindBay bay = new WindBay();
+            bay.set(0, 181);
+            bay.set(3, 0);
+            Due.is("out at 4, at DIST at 31, x 16", bay.tacks(-168, false, 0), 33);
+            Due.is("turned at 30: at DIST at 31, x 0", bay.tacks(-168, false, 4), 31);
+            Due.is("SECONDS", bay.best(-168, false, 1), 31);
+            Due.is("bits", bay.best(-168, false, 0), 4);
+        });
+    }
+
+    private static void sidesFrom() {
+        Due.sentence("16: the start at -100 .. at 100: no other x, either way", () -> {
+            String[] laws = {"10", "0-10", "(t/40*2-1)*25", "(1-t/40*2)*25", "0"};
+            int[][] told = new int[4][2];
+            for (int n = 0; n < 150; n++) {
+                WindBay bay = new WindBay();
+                bay.set(0, 60 + n);
+                bay.set(1, 3);
+                bay.set(2, 99 + n / 5 % 2);
+                Due.law(bay, laws[n % 5]);
+                int[] right = {bay.best(100, false, 1), bay.best(100, true, 1)};
+                int[] left = {bay.best(-100, false, 1), bay.best(-100, true, 1)};
+                Due.is("sides, DIST " + (60 + n), bay.sides(), Math.min(right[0], right[1]) - Math.min(left[0], left[1]));
+                for (int off = -1; off <= 1; off += 2) {
+                    tell(told[1 + off], right, bay.best(100 + off, false, 1), bay.best(100 + off, true, 1));
+                    tell(told[2 + off], left, bay.best(-100 + off, false, 1), bay.best(-100 + off, true, 1));
+                }
+            }
+            for (int i = 0; i < 8; i++) {
+                Due.is("another start would tell, " + i, told[i / 2][i % 2] > 0 ? 1 : 0, 1);
+            }
+        });
+    }
+
+    /** Whether another start of the one way, of the other one, would have been told. */
+    private static void tell(int[] told, int[] ways, int left, int right) {
+        int better = Math.min(ways[0], ways[1]);
+        told[0] += Math.min(left, ways[1]) != better ? 1 : 0;
+        told[1] += Math.min(ways[0], right) != better ? 1 : 0;
+    }
+
     private static void sides() {
         Due.sentence("16: both sides alike", () -> {
             Due.is("a calm bay", new WindBay().sides(), 0);
@@ -230,18 +309,17 @@ public final class EdgesAloneTest {
         });
         Due.sentence("16: (the better of both ways each)", () -> {
             for (String law : new String[] {"10", "0-10", "t%40-20", "20-t%40"}) {
+                int[] least = new int[4];
+                for (int i = 0; i < 4; i++) {
+                    WindBay bay = new WindBay();
+                    bay.set(0, 120);
+                    Due.law(bay, law);
+                    least[i] = least(bay, i < 2 ? 100 : -100, i % 2 == 0) / 1000;
+                }
                 WindBay bay = new WindBay();
                 bay.set(0, 120);
                 Due.law(bay, law);
-                int from = Math.min(least(bay, 100, true), least(bay, 100, false)) / 1000;
-                WindBay other = new WindBay();
-                other.set(0, 120);
-                Due.law(other, law);
-                int left = 400;
-                for (int bits = 0; bits < 128; bits++) {
-                    left = Math.min(left, Math.min(other.tacks(-100, true, bits), other.tacks(-100, false, bits)));
-                }
-                Due.is("by " + law, other.sides(), from - left);
+                Due.is("by " + law, bay.sides(), Math.min(least[0], least[1]) - Math.min(least[2], least[3]));
             }
         });
     }

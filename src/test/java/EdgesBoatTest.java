@@ -9,6 +9,7 @@ public final class EdgesBoatTest {
         refusedComings();
         tellings();
         badAirByY();
+        badAirNow();
         badAirByX();
         badAirOfWhoIsIn();
         turns();
@@ -270,6 +271,55 @@ public final class EdgesBoatTest {
                 }
                 Due.is("one", bay.count(4), 1);
             }
+        });
+    }
+
+    private static void badAirNow() {
+        Due.sentence("8: .. now: as the RACE begins anew", () -> {
+            WindBay bay = twoApart(6, 0);
+            Due.is("behind", bay.badAir(1), 1);
+            bay.anew();
+            Due.is("level", bay.badAir(1), 0);
+            WindBay other = twoApart(6, 0);
+            other.anew();
+            Due.is("BOATS in BAD AIR", other.count(4), 0);
+        });
+        Due.sentence("8: .. now: in the next SECOND, too, as the RACE begins anew", () -> {
+            WindBay bay = new WindBay();
+            bay.set(3, 1);
+            bay.boat(0, 0, true, 0);
+            bay.boat(0, 8, true, 0);
+            bay.turn(1);
+            bay.go(1);
+            Due.is("behind", bay.badAir(1), 1);
+            bay.anew();
+            bay.go(1);
+            Due.is("not slowed", bay.of(1, 2), 6);
+        });
+        Due.sentence("8: .. now: as THE IMAGE is RESTORED", () -> {
+            WindBay bay = new WindBay();
+            bay.set(3, 1);
+            bay.boat(0, 0, true, 0);
+            bay.boat(0, 8, true, 0);
+            bay.turn(1);
+            bay.go(1);
+            bay.image();
+            bay.anew();
+            Due.is("level", bay.badAir(1), 0);
+            bay.restore();
+            Due.is("behind", bay.badAir(1), 1);
+            bay.anew();
+            bay.restore();
+            Due.is("BOATS in BAD AIR", bay.count(4), 1);
+            bay.anew();
+            bay.go(1);
+            bay.restore();
+            bay.go(1);
+            Due.is("slowed", bay.of(1, 2), 4);
+        });
+        Due.sentence("8: .. now: ahead of the first SECOND", () -> {
+            WindBay bay = full();
+            Due.all("badAir", bay::badAir, 0, 0, 1, 2, 3);
         });
     }
 

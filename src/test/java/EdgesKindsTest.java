@@ -435,6 +435,18 @@ public final class EdgesKindsTest {
                 lastBy(dists[i], 9 - far[i], false, false);
             }
         });
+        Due.sentence("9: LAST: 1 left to DIST (8 by 6, cut, is 1) at x 1 and -1", () -> {
+            for (int dist = 43; dist <= 44; dist++) {
+                WindBay bay = new WindBay();
+                bay.set(0, dist);
+                bay.boat(LAST, -55, true, 40);
+                bay.boat(LAST, 55, false, 40);
+                bay.go(7);
+                int left = dist == 43 ? 1 : 0;
+                Due.boat("RIGHT, DIST " + dist, bay, 0, 1, 42, left == 0, 2 * left, left);
+                Due.boat("LEFT, DIST " + dist, bay, 1, -1, 42, left == 1, 2 * left, left);
+            }
+        });
         Due.sentence("9: LAST: .. if it goes away from 0", () -> {
             lastBy(66, 88, false, false);
             lastBy(66, -88, true, false);

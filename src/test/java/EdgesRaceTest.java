@@ -175,6 +175,25 @@ public final class EdgesRaceTest {
             Due.is("it goes again", bay.go(1), 1);
             Due.boat("it goes again", bay, 0, 8, 3, true, 0, 0);
         });
+        Due.sentence("11: .. and nothing else does", () -> {
+            WindBay bay = one();
+            int[] told = {40, 1, 7, 5, 12};
+            for (int what = 0; what < 5; what++) {
+                bay.set(what, told[what]);
+            }
+            Due.law(bay, "s+1");
+            bay.image();
+            bay.go(7);
+            bay.keep(0, 1, 0);
+            bay.anew();
+            for (int what = 0; what < 5; what++) {
+                Due.is("set(" + what + ")", bay.set(what, told[what]), told[what]);
+            }
+            Due.is("WIND", bay.wind(0), 13);
+            Due.is("SHELF 0", bay.skill(0), 10);
+            Due.is("SHELF 7", bay.fault(7), -4);
+            Due.is("THE IMAGE", bay.restore(), 0);
+        });
         Due.sentence("11: .. in a turn told at SECOND 0", () -> {
             WindBay bay = one();
             bay.turn(0);

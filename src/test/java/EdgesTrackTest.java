@@ -94,6 +94,8 @@ public final class EdgesTrackTest {
             which(2, MIN, -1, 0, MAX);
             which(1, MAX, MIN, MAX, MIN, 0);
             which(2, MAX, 0, -1, MIN);
+            which(2, MIN, 1, 2, 3);
+            which(2, MAX, -2, -3, -4);
         });
     }
 
@@ -411,6 +413,16 @@ public final class EdgesTrackTest {
             Due.is("SEED 999", bay.worth(0, 8), 5);
             bay.set(4, 3);
             Due.is("SEED 3", bay.worth(0, 8), 5);
+        });
+        Due.sentence("23: so much more in y now: BAD AIR by that, too", () -> {
+            WindBay bay = new WindBay();
+            bay.set(0, 42);
+            bay.boat(0, -55, true, 0);
+            bay.boat(0, -56, true, 0);
+            // level 1 would be IN at 7, and 0 at 8; 2 ahead, 0 slows 1
+            Due.is("level", bay.worth(0, 1), 0);
+            Due.is("2 ahead", bay.worth(2, 1), 1);
+            Due.is("2 ahead, once more", bay.worth(2, 20), 20);
         });
         Due.sentence("23: the others of the RACE sail along", () -> {
             for (int others = 0; others < 2; others++) {

@@ -11,6 +11,7 @@ public final class EdgesTwoTest {
         leadAtSixty();
         leadOfWhoIsIn();
         safe();
+        everyBits();
         answer();
         cover();
         aloneInMind();
@@ -170,6 +171,55 @@ public final class EdgesTwoTest {
             WindBay bay = calm();
             bay.set(0, 400);
             Due.is("-1 and less are no refusals", bay.safe(200, 0, 3, 0) < 0 ? 1 : 0, 1);
+        });
+    }
+
+    /** A bay and a GAME, told apart by a number. */
+    private static WindBay some(int n) {
+        WindBay bay = new WindBay();
+        String[] laws = {"t%40-20", "20-t%40", "(t/10%2*2-1)*20", "(t+s)%30-15", "(t/15%2*2-1)*30", "0"};
+        Due.law(bay, laws[n % 6]);
+        bay.set(0, 400);
+        bay.set(3, n % 5);
+        bay.set(4, n * 7 % 40);
+        return bay;
+    }
+
+    private static void everyBits() {
+        Due.sentence("18, 19: bits 0 .. 15 each: all are tried, and no others", () -> {
+            boolean[] surests = new boolean[16];
+            boolean[] worsts = new boolean[16];
+            for (int n = 0; n <= 250; n++) {
+                int x = n * 37 % 401 - 200;
+                int other = n * 53 % 401 - 200;
+                WindBay bay = some(n);
+                int most = MIN;
+                int surest = -1;
+                int alike = 0;
+                for (int bits = 0; bits < 16; bits++) {
+                    int least = MAX;
+                    int worst = -1;
+                    int ties = 0;
+                    for (int others = 0; others < 16; others++) {
+                        int lead = bay.lead(x, other, n % 4, bits, others);
+                        ties = lead < least ? 1 : lead == least ? ties + 1 : ties;
+                        worst = lead < least ? others : worst;
+                        least = Math.min(least, lead);
+                    }
+                    Due.is("answer " + n, bay.answer(x, other, n % 4, bits), worst);
+                    worsts[worst] |= ties == 1;
+                    alike = least > most ? 1 : least == most ? alike + 1 : alike;
+                    surest = least > most ? bits : surest;
+                    most = Math.max(most, least);
+                }
+                Due.is("safe, LEAD " + n, bay.safe(x, other, n % 4, 0), most);
+                Due.is("safe, bits " + n, bay.safe(x, other, n % 4, 1), surest);
+                surests[surest] |= alike == 1;
+            }
+            for (int bits = 0; bits < 16; bits++) {
+                Due.is("the only worst was " + bits, worsts[bits] ? 1 : 0, 1);
+                Due.is("the only surest was " + bits, surests[bits] ? 1 : 0, 1);
+            }
         });
     }
 

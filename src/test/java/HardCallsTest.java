@@ -9,29 +9,40 @@ public final class HardCallsTest {
         Integer.MAX_VALUE, Integer.MIN_VALUE, Integer.MAX_VALUE - 1, Integer.MIN_VALUE + 1, 1 << 30, -(1 << 30)};
     private static final String TEXT = "ts0123456789()+-*/%";
 
+    /** An object is used for at most so many calls. */
+    private static final int MOST_CALLS = 512;
+    /** At most so many calls does oneCall make beside the looks. */
+    private static final int ONE_CALL = 13;
+    private static final int LOOKS = 204;
+
     private final Random random;
     private final WindBay bay = new WindBay();
     private int lastCall;
+    private int calls;
 
     private HardCallsTest(long seed) {
         random = new Random(seed);
     }
 
     public static void main(String[] args) {
-        for (long seed = 1; seed <= 150; seed++) {
+        for (long seed = 1; seed <= 1200; seed++) {
             HardCallsTest test = new HardCallsTest(seed);
-            for (int i = 0; i < 512; i++) {
-                test.oneCall(seed, i);
+            // one call of a run in two is looked at, as looks are many calls
+            int looked = seed % 2 == 0 ? test.random.nextInt(60) : -1;
+            int spared = seed % 2 == 0 ? 2 * LOOKS : 0;
+            for (int i = 0; test.calls + spared + ONE_CALL <= MOST_CALLS; i++) {
+                test.oneCall(seed, i, i == looked);
+                spared = i == looked ? 0 : spared;
             }
         }
         Due.end();
     }
 
-    private void oneCall(long seed, int i) {
-        boolean looked = i % 8 == 0;
+    private void oneCall(long seed, int i, boolean looked) {
         long[] before = looked ? looks() : null;
         long answer;
         try {
+            calls++;
             answer = call();
         } catch (RuntimeException e) {
             System.out.println("run " + seed + ", call " + i + ", of sort " + lastCall + " threw " + e);
@@ -42,6 +53,7 @@ public final class HardCallsTest {
             Due.is("run " + seed + ", a refused call of sort " + lastCall + " changed nothing, answer " + answer,
                 Arrays.equals(before, looks()) ? 1 : 0, 1);
         }
+        Due.is("calls", calls <= MOST_CALLS ? 1 : 0, 1);
     }
 
     private static boolean isRefusal(long answer) {
@@ -126,6 +138,7 @@ public final class HardCallsTest {
 
     private long text(int d) {
         int n = random.nextInt(12);
+        calls += n;
         if (bay.row(d, 0, n) != 0) {
             return 0;
         }
@@ -140,6 +153,7 @@ public final class HardCallsTest {
 
     private long ints(int d) {
         int n = random.nextInt(12);
+        calls += n;
         bay.row(d, 2, n);
         for (int i = 0; i < n; i++) {
             bay.put(d, i, any());
@@ -148,6 +162,7 @@ public final class HardCallsTest {
     }
 
     private long[] looks() {
+        calls += LOOKS;
         long[] all = new long[260];
         int k = 0;
         for (int i = 0; i < 4; i++) {
