@@ -198,7 +198,7 @@ public final class EdgesAloneTest {
             Due.is("40 SECONDS by 5", calm.tacks(0, true, 5), 40);
             Due.is("40 SECONDS by 128 more", calm.tacks(0, true, 133), 40);
         });
-        Due.sentence("15: the bits with the least: 400 SECONDS, if it is never IN", () -> {
+        Due.sentence("15: the bits with the least: of all 256, by a WIND and a TIDE that change much", () -> {
             WindBay bay = new WindBay();
             bay.set(0, 400);
             bay.set(1, 3);

@@ -325,6 +325,9 @@ public final class EdgesImageTest {
             bay.go(3);
             Due.is("at DIST", bay.of(0, 2), 42);
             Due.is("still", bay.count(3), 4);
+            bay.go(100);
+            Due.is("IN", bay.count(2), 2);
+            Due.is("of those IN", bay.count(3), 4);
             bay.anew();
             Due.is("anew", bay.count(3), 0);
         });
