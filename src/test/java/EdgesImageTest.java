@@ -185,6 +185,20 @@ public final class EdgesImageTest {
             Due.is("no go", bay.go(1), -3);
             Due.is("not begun", bay.boat(0, 0, true, 0), 0);
         });
+        Due.sentence("26: all that there is: no more of a BOAT that came later, and was in BAD AIR", () -> {
+            WindBay bay = new WindBay();
+            bay.set(3, 1);
+            bay.boat(0, 0, true, 0);
+            bay.image();
+            bay.boat(0, 8, true, 0);
+            bay.turn(1);
+            bay.go(1);
+            bay.restore();
+            Due.is("BOATS in BAD AIR", bay.count(4), 0);
+            Due.is("turns", bay.count(3), 0);
+            Due.is("IN", bay.count(2), 0);
+            Due.is("no PLACE 2", bay.place(2), -4);
+        });
         Due.sentence("26: all that there is: BOATS in place of others", () -> {
             WindBay bay = new WindBay();
             bay.image();
