@@ -594,7 +594,7 @@ public final class WindBay {
         }
 
         void tellLaw(int[] text, int size) {
-            law.take(text, size);
+            law.tell(text, size);
             Arrays.fill(winds, UNKNOWN);
         }
 
@@ -604,7 +604,8 @@ public final class WindBay {
             shore = other.shore;
             cost = other.cost;
             seed = other.seed;
-            tellLaw(other.law.text, other.law.size);
+            law.take(other.law);
+            Arrays.fill(winds, UNKNOWN);
         }
 
         int windAt(int second) {
@@ -623,19 +624,19 @@ public final class WindBay {
         }
     }
 
-    /** The LAW of the WIND, worked out from its text as often as it is asked for. */
+    /** The LAW of the WIND, kept as steps: a sign stands behind the two parts that it joins. */
     private static final class Law {
-        final int[] text = new int[LONGEST_ROW];
-        int size;
-        /** Where the working out stands, and by what SECOND and SEED. */
-        private int place;
-        private int second;
-        private int seed;
+        /** Steps that are no NUMBER; a sign's step is less than these: its byte, below 0. */
+        private static final int THE_SECOND = -1;
+        private static final int THE_SEED = -2;
 
-        void take(int[] from, int n) {
-            size = Math.max(0, Math.min(n, Math.min(from.length, text.length)));
-            System.arraycopy(from, 0, text, 0, size);
-        }
+        private final int[] steps = new int[LONGEST_ROW];
+        private int size;
+        /** Signs and open brackets whose last part isn't told yet. */
+        private final int[] waiting = new int[LONGEST_ROW];
+        private int waits;
+        /** What is worked out and isn't joined yet. */
+        private final int[] parts = new int[LONGEST_ROW];
 
         /** The FAULT; NONE, if the text is a LAW. */
         static int faultIn(int[] text, int size) {
@@ -675,72 +676,99 @@ public final class WindBay {
             return c == '*' || c == '/' || c == '%';
         }
 
-        int valueAt(int atSecond, int withSeed) {
-            if (size == 0) {
-                return 0;
-            }
-            place = 0;
-            second = atSecond;
-            seed = withSeed;
-            return sum(0);
+        void take(Law other) {
+            size = Math.max(0, Math.min(other.size, steps.length));
+            System.arraycopy(other.steps, 0, steps, 0, size);
         }
 
-        private int next() {
-            return place >= 0 && place < size && place < text.length ? text[place] : 0;
+        /** A text without FAULT is told. */
+        void tell(int[] text, int length) {
+            size = 0;
+            waits = 0;
+            int number = 0;
+            for (int i = 0; i < length && i < text.length; i++) {
+                int c = text[i];
+                if (isDigit(c)) {
+                    number = number * 10 + c - '0';
+                    if (i + 1 >= length || i + 1 >= text.length || !isDigit(text[i + 1])) {
+                        addStep(number);
+                        number = 0;
+                    }
+                } else if (c == 't' || c == 's') {
+                    addStep(c == 't' ? THE_SECOND : THE_SEED);
+                } else {
+                    tellSign(c);
+                }
+            }
+            endWaits(1);
         }
 
-        private int sum(int depth) {
-            int total = product(depth);
-            while (place < size && isSumSign(next())) {
-                boolean more = next() == '+';
-                place++;
-                int part = product(depth);
-                total = more ? total + part : total - part;
+        private void tellSign(int c) {
+            if (c == ')') {
+                endWaits(1);
+                waits = Math.max(0, waits - 1);
+                return;
             }
-            return total;
+            if (c != '(') {
+                endWaits(tightness(c));
+            }
+            if (waits >= 0 && waits < waiting.length) {
+                waiting[waits] = c;
+                waits++;
+            }
         }
 
-        private int product(int depth) {
-            int total = atom(depth);
-            while (place < size && isProductSign(next())) {
-                int sign = next();
-                place++;
-                total = joined(sign, total, atom(depth));
+        private void addStep(int step) {
+            if (size >= 0 && size < steps.length) {
+                steps[size] = step;
+                size++;
             }
-            return total;
+        }
+
+        /** The waiting signs that join at least so tightly, back to the last open bracket, have both parts. */
+        private void endWaits(int least) {
+            while (waits > 0 && waits <= waiting.length && tightness(waiting[waits - 1]) >= least) {
+                waits--;
+                addStep(-waiting[waits]);
+            }
+        }
+
+        private static int tightness(int c) {
+            if (isProductSign(c)) {
+                return 2;
+            }
+            return isSumSign(c) ? 1 : 0;
+        }
+
+        /** Without a LAW told there is no step. */
+        int valueAt(int second, int seed) {
+            int worked = 0;
+            for (int i = 0; i < size && i < steps.length; i++) {
+                int step = steps[i];
+                if (step < THE_SEED && worked >= 2 && worked <= parts.length) {
+                    worked--;
+                    parts[worked - 1] = joined(-step, parts[worked - 1], parts[worked]);
+                } else if (step >= THE_SEED && worked < parts.length) {
+                    parts[worked] = step >= 0 ? step : step == THE_SECOND ? second : seed;
+                    worked++;
+                }
+            }
+            return worked == 0 ? 0 : parts[0];
         }
 
         private static int joined(int sign, int a, int b) {
-            if (sign == '*') {
-                return a * b;
+            switch (sign) {
+                case '+':
+                    return a + b;
+                case '-':
+                    return a - b;
+                case '*':
+                    return a * b;
+                case '/':
+                    return b == 0 ? 0 : a / b;
+                default:
+                    return b == 0 ? 0 : a % b;
             }
-            if (b == 0) {
-                return 0;
-            }
-            return sign == '/' ? a / b : a % b;
-        }
-
-        private int atom(int depth) {
-            int c = next();
-            if (isDigit(c)) {
-                return wholeNumber();
-            }
-            place++;
-            if (c == '(' && depth < DEEPEST) {
-                int inner = sum(depth + 1);
-                place++;
-                return inner;
-            }
-            return c == 't' ? second : seed;
-        }
-
-        private int wholeNumber() {
-            int n = 0;
-            while (place < size && isDigit(next())) {
-                n = n * 10 + next() - '0';
-                place++;
-            }
-            return n;
         }
     }
 
@@ -1025,19 +1053,17 @@ public final class WindBay {
 
         void goOn(Bay bay, int seconds) {
             for (int i = 0; i < seconds && !hasEnded(); i++) {
-                step(bay);
+                step(bay, bay.windAt(second), bay.windAt(second + 1));
             }
         }
 
-        private void step(Bay bay) {
+        private void step(Bay bay, int wind, int windNow) {
             tellBadAir();
-            int wind = bay.windAt(second);
             second++;
             for (int i = 0; i < number && i < boats.length; i++) {
                 boats[i].sail(bay, wind, second);
             }
             tellBadAir();
-            int windNow = bay.windAt(second);
             for (int i = 0; i < number && i < boats.length; i++) {
                 Boat boat = boats[i];
                 boat.aboutToTurn = boat.canTurn(bay)
@@ -1085,7 +1111,9 @@ public final class WindBay {
             for (int i = 0; i < number && i < boats.length; i++) {
                 boats[i].inBadAir = false;
                 for (int j = 0; j < number && j < boats.length; j++) {
-                    boats[i].inBadAir |= boats[j].fouls(boats[i]);
+                    if (boats[j].fouls(boats[i])) {
+                        boats[i].inBadAir = true;
+                    }
                 }
             }
         }
@@ -1134,8 +1162,11 @@ public final class WindBay {
 
         /** In a GAME, who is IN counts DIST. */
         int leadOfFirst(int dist) {
-            Boat first = boats[0];
-            Boat other = boats[1];
+            Boat first = boatAt(0);
+            Boat other = boatAt(1);
+            if (first == null || other == null) {
+                return 0;
+            }
             return (first.isIn() ? dist : first.height()) - (other.isIn() ? dist : other.height());
         }
     }
